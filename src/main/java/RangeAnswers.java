@@ -569,7 +569,7 @@ public final class RangeAnswers {
         }
 
         private long read(int r, int letter) {
-            if (!isRow(r)) return 0;
+            if (r < 0 || r >= ROWS) return 0;
             switch (letter) {
                 case 0: return worths[r];
                 case 1: return xs[r];
@@ -631,8 +631,10 @@ public final class RangeAnswers {
         private boolean sumIsOver() {
             long sum = 0;
             for (int i = 0; i < count; i++) {
-                if (worths[i] >= 0 ? sum > Long.MAX_VALUE - worths[i] : sum < Long.MIN_VALUE - worths[i]) return true;
-                sum += worths[i];
+                long next = sum + worths[i];
+                boolean hasWrapped = worths[i] >= 0 ? next < sum : next > sum;
+                if (hasWrapped) return true;
+                sum = next;
             }
             return false;
         }
@@ -652,23 +654,23 @@ public final class RangeAnswers {
         }
 
         private long leastWorth() {
-            long least = Long.MAX_VALUE;
-            for (int i = 0; i < count; i++) {
+            long least = worths[0];
+            for (int i = 1; i < count; i++) {
                 least = Math.min(least, worths[i]);
             }
             return least;
         }
 
         private long mostWorth() {
-            long most = Long.MIN_VALUE;
-            for (int i = 0; i < count; i++) {
+            long most = worths[0];
+            for (int i = 1; i < count; i++) {
                 most = Math.max(most, worths[i]);
             }
             return most;
         }
 
         /** Of two longs, the first not below the second: only there a wrapped difference is below 0. */
-        private long difference(long most, long least) {
+        private static long difference(long most, long least) {
             return most - least < 0 ? OVER : most - least;
         }
 
@@ -758,6 +760,8 @@ public final class RangeAnswers {
         static final int MOST_MISSING = 169;
         static final int CAPACITY = MOST_REGIONS + MOST_MISSING;
         private static final int MOST_HITS = 9999;
+        /** More than a turn for each region ahead of each merging and behind the last one. */
+        private static final int MOST_TURNS = 100000;
 
         final Store store;
         final Settings settings = new Settings();
@@ -898,22 +902,31 @@ public final class RangeAnswers {
 
         private void merge() {
             if (settings.of(Settings.MERGE) == 0) return;
-            boolean more = true;
-            for (int n = count; n > 1 && more; n--) {
-                more = mergeFirstPair();
+            int first = 0;
+            for (int n = MOST_TURNS; n > 0 && first < count; n--) {
+                int other = otherBehind(first);
+                if (other < 0) {
+                    first++;
+                } else {
+                    mergeInto(first, other);
+                    first = earliestFor(first);
+                }
             }
         }
 
-        private boolean mergeFirstPair() {
-            for (int i = 0; i < count; i++) {
-                for (int j = i + 1; j < count; j++) {
-                    if (Box.join(boxes[i], boxes[j])) {
-                        mergeInto(i, j);
-                        return true;
-                    }
-                }
+        private int otherBehind(int first) {
+            for (int i = first + 1; i < count; i++) {
+                if (Box.join(boxes[first], boxes[i])) return i;
             }
-            return false;
+            return NONE;
+        }
+
+        /** Ahead of a merged one there was no pair: the next one that begins there can only be with it. */
+        private int earliestFor(int merged) {
+            for (int i = 0; i < merged; i++) {
+                if (Box.join(boxes[i], boxes[merged])) return i;
+            }
+            return merged;
         }
 
         private void mergeInto(int i, int j) {
@@ -1127,11 +1140,11 @@ public final class RangeAnswers {
         }
 
         private void blame(int place) {
-            if (isSound()) fault = place;
+            if (fault == SOUND) fault = place;
         }
 
         private int here() {
-            return isSound() && at >= 0 && at < length && at < ROOM ? bytes[at] : END;
+            return fault == SOUND && at >= 0 && at < length && at < ROOM ? bytes[at] : END;
         }
 
         boolean takes(int letter) {
@@ -1141,7 +1154,11 @@ public final class RangeAnswers {
         }
 
         void wants(int letter) {
-            if (!takes(letter)) blame(at);
+            if (here() == letter) {
+                at++;
+            } else {
+                blame(at);
+            }
         }
 
         /** Which of the signs stands here. */

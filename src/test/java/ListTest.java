@@ -33,6 +33,7 @@ public final class ListTest {
         Check.due("stays", 7, x.get(5, 3));
         Check.due("anew", 1, x.list(5, 4));
         Check.due("all 0", "0 0 0 0", Helper.list(x, 5));
+        x.set(5, 0, 8);
         x.set(5, 2, 9);
         x.list(5, 2);
         x.list(5, 4);
@@ -125,6 +126,16 @@ public final class ListTest {
         x.query(0, 20, 20, 20, 20);
         Check.due("nothing to lay", 0, x.lay(0, 0));
         Check.due("nothing to lay at the end", 0, x.lay(0, 4));
+        x = new RangeAnswers();
+        for (int r = 59; r >= 0; r--) x.put(r, 31, 31, r);
+        Check.due("all the rows", 60, x.query(0, 31, 31, 31, 31));
+        Check.due("too much to keep", 0, x.told(0));
+        x.list(0, 60);
+        Check.due("all the rows", 60, x.lay(0, 0));
+        Check.due("the last", 59, x.get(0, 59));
+        Check.due("one too many", -13, x.lay(0, 1));
+        Check.due("the last", 58, x.get(0, 59));
+        Check.due("judged", 159, x.judge(0, 1));
     }
 
     private static void judges() {
@@ -157,6 +168,7 @@ public final class ListTest {
         x.put(0, 1, 1, 4);
         x.put(1, 2, 2, 6);
         x.watch(1, 0, 9, 0, 9);
+        x.watch(0, 0, 31, 0, 31);
         x.put(2, 3, 3, 1);
         x.query(0, 0, 9, 0, 9);
         x.query(1, 1, 2, 1, 2);
@@ -188,17 +200,12 @@ public final class ListTest {
         Check.promise(38);
         Check.due("none yet", -3, new RangeAnswers().undo());
         for (int turn = 0; turn < 2; turn++) {
-            x.put(0, 9, 9, 5);
-            x.take(1);
-            x.put(30, 9, 9, 5);
-            Helper.set(x, "setup 9;room 9;most 2;writes drop;merge on;shrink off;big 9");
-            Helper.run(x, "sum 0-9 *;sum 1 2 if x>3");
-            x.put(3, 1, 1, 5);
-            x.trace(9, 9, 9, 9);
-            x.trace(20, 31, 9, 9);
-            x.watch(0, 0, 31, 0, 31);
-            x.flush();
-            Check.due("other", 0, state(x).equals(then) ? 1 : 0);
+            long[] told = new long[10];
+            for (int what = 0; what < 10; what++) told[what] = x.told(what);
+            disturb(x);
+            for (int what = 0; what < 10; what++) {
+                Check.due("told " + what + " stays", 0, told[what] == x.told(what) ? 1 : 0);
+            }
             Check.due("undo", 3, x.undo());
             Check.due("all as it was", then, state(x));
         }
@@ -215,6 +222,28 @@ public final class ListTest {
         Check.due("the latest image", Helper.regions(y), Helper.regions(x));
     }
 
+    /** Changes all that the image has. */
+    private static void disturb(RangeAnswers x) {
+        x.put(0, 9, 9, 5);
+        x.take(1);
+        x.put(30, 9, 31, 5);
+        x.put(31, 9, 9, 5);
+        x.query(0, 24, 25, 0, 31);
+        x.query(0, 24, 25, 0, 0);
+        x.query(0, 26, 27, 0, 0);
+        x.query(0, 28, 28, 0, 0);
+        x.query(0, 30, 30, 1, 1);
+        Helper.set(x, "setup 9;room 9;most 2;writes drop;merge on;shrink off;big 99");
+        x.query(0, 10, 10, 10, 10);
+        x.query(0, 10, 10, 11, 11);
+        x.put(3, 10, 10, 5);
+        Helper.run(x, "sum 0-9 *;sum 9 9 if w>3");
+        x.trace(9, 9, 9, 9);
+        x.trace(20, 31, 9, 9);
+        x.watch(0, 0, 31, 0, 31);
+        x.flush();
+    }
+
     private static void imageOfTheRest() {
         Check.promise(38);
         RangeAnswers x = found(3, 4);
@@ -222,8 +251,9 @@ public final class ListTest {
         x.list(0, 2);
         x.image();
         x.trace(-1, 0, 0, 0);
-        x.query(0, 31, 31, 31, 31);
         x.put(0, 0, 0, 5);
+        x.put(2, 2, 0, 6);
+        x.query(0, 0, 31, 0, 31);
         x.lay(0, 0);
         x.set(0, 0, 9);
         Helper.feed(x, "room 7");

@@ -3,18 +3,20 @@ import java.util.Random;
 /** Long runs of calls, the same ones each time, on a RangeAnswers and on the Model side by side. */
 public final class ModelRuns {
     private static final int RUNS = 400, CALLS = 200;
+    /** What boxes are like: style 0 is neither small ones nor bars. */
+    private static final int SMALL = 1, BARS = 2, STYLES = 3;
 
     private final Random random;
     private final RangeAnswers real = new RangeAnswers();
     private final Model model = new Model();
     private final StringBuilder log = new StringBuilder();
     private final int[] lines;
-    private final boolean small;
+    private final int style;
     private int wrong = 0;
 
     private ModelRuns(int seed) {
         random = new Random(seed);
-        small = random.nextBoolean();
+        style = random.nextInt(STYLES);
         lines = new int[3 + random.nextInt(10)];
         for (int i = 0; i < lines.length; i++) lines[i] = random.nextInt(32);
     }
@@ -70,7 +72,9 @@ public final class ModelRuns {
         int[] b = new int[4];
         for (int side = 0; side < 4; side += 2) {
             int u = oneIn(3) ? below(32) : lines[below(lines.length)];
-            int v = small ? Math.min(31, u + below(6)) : oneIn(4) ? below(32) : lines[below(lines.length)];
+            int v = oneIn(4) ? below(32) : lines[below(lines.length)];
+            if (style == SMALL) v = Math.min(31, u + below(6));
+            if (style == BARS && side == 0 && !oneIn(5)) v = u;
             b[side] = Math.min(u, v);
             b[side + 1] = Math.max(u, v);
             if (oneIn(6)) b[side + 1] = Math.max(b[side], b[side + 1] - 1);

@@ -183,6 +183,17 @@ public final class QueryTest {
         Check.due("SHRUNK", 1, x.told(5));
         Check.due("EVICTED", 3, x.told(4));
         Check.due("LEVEL", 20000, x.told(8));
+        x = Helper.with("room 2");
+        x.put(0, 1, 1, 1);
+        x.query(0, 0, 9, 0, 9);
+        for (int i = 0; i < 5; i++) x.query(0, 0, 3, 0, 3);
+        x.put(1, 5, 5, 1);
+        Check.due("5 HITS halved", "0:0-3,0-3*2@none=" + (11000 * 6 / 2 + 11000 * 3 / 2), Helper.regions(x));
+        x.query(0, 0, 2, 0, 2);
+        x.put(2, 2, 2, 1);
+        Check.due("shrunk, and then it goes", 0, x.told(0));
+        Check.due("SHRUNK", 2, x.told(5));
+        Check.due("EVICTED", 1, x.told(4));
         x = Helper.with("merge off;most 1;shrink off");
         x.query(0, 0, 3, 0, 3);
         x.query(0, 1, 1, 1, 1);
@@ -270,27 +281,36 @@ public final class QueryTest {
         Check.due("of the latest probe", 4, x.piece(0, 2));
     }
 
-    /** Twelve regions of one place each, askew. */
     private static void manyPieces() {
         Check.promise(18);
-        RangeAnswers x = new RangeAnswers();
-        StringBuilder s = new StringBuilder();
+        StringBuilder askew = new StringBuilder();
+        StringBuilder nested = new StringBuilder();
         for (int i = 0; i < 12; i++) {
             int at = 1 + 2 * i;
-            s.append(i > 0 ? ";" : "").append(at + "-" + at + "," + at + "-" + at);
+            askew.append(i > 0 ? ";" : "").append(at + "-" + at + "," + at + "-" + at);
+            nested.append(i > 0 ? ";" : "").append(at + "-" + at + "," + (14 - i) + "-" + (14 + i));
         }
-        Check.due("load", 12, Helper.load(x, s.toString()));
-        int pieces = x.probe(0, 31, 0, 31);
+        pieces(askew.toString(), 12 * 3 + 1);
+        pieces(nested.toString(), 169);
+    }
+
+    /** Twelve regions, and how many pieces of the grid are missing then. */
+    private static void pieces(String regions, int missing) {
+        RangeAnswers x = new RangeAnswers();
+        Check.due("load", 12, Helper.load(x, regions));
+        Check.due("the pieces", 12 + missing, x.probe(0, 31, 0, 31));
         int area = 0;
-        for (int i = 0; i < pieces; i++) {
+        for (int i = 0; i < 12 + missing; i++) {
             area += (x.piece(i, 1) - x.piece(i, 0) + 1) * (x.piece(i, 3) - x.piece(i, 2) + 1);
         }
         Check.due("all the grid", 1024, area);
-        Check.due("the pieces", 12 + 12 * 3 + 1, pieces);
+        x.explain(0, 31, 0, 31);
+        Check.due("explained", 12 + missing + 1, Helper.paper(x).split(";").length);
         x.query(0, 0, 31, 0, 31);
-        Check.due("ASKS", 12 + 12 * 3 + 1, x.told(2));
-        Check.due("all the grid", "0-31,0-31", Helper.boxes(x));
-        Check.due("MERGED", 12 + 12 * 3, x.told(6));
+        Check.due("ASKS", 12 + missing, x.told(2));
+        Check.due("one region", "0-31,0-31", Helper.boxes(x));
+        Check.due("MERGED", 11 + missing, x.told(6));
+        Check.due("HITS of all", 12, x.region(0, 5));
     }
 
     private static void regions() {

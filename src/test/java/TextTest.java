@@ -65,6 +65,14 @@ public final class TextTest {
         Check.due("then", "8 1 9 0 1 1 10", all(x));
         Check.due("the tape is empty", 0, x.clear());
         Check.due("many parts", 20, Helper.set(x, "most 1;".repeat(19) + "most 12"));
+        Check.due("160 bytes", 18, Helper.set(x, "merge on;".repeat(16) + "big 1;writes cut"));
+        Check.due("then", "8 1 12 2 1 1 1", all(x));
+        Check.due("a fault behind others", -113, Helper.set(x, "setup 9;room x"));
+        x.image();
+        Helper.set(x, "setup 11");
+        x.undo();
+        Check.due("one alone", 1, Helper.set(x, "room 6"));
+        Check.due("then", "8 6 12 2 1 1 1", all(x));
     }
 
     private static void settingsFault(String text, int place) {
@@ -93,6 +101,9 @@ public final class TextTest {
         settingsFault("setup 5;;", 8);
         settingsFault("setup 5; room 5", 8);
         settingsFault("setup 5;rooms 5", 8);
+        settingsFault("betup 5", 0);
+        settingsFault("most 100", 7);
+        settingsFault("room 100", 7);
         settingsFault("room 00", 5);
         settingsFault("room 0;", 5);
         settingsFault("most 13", 5);
@@ -242,6 +253,8 @@ public final class TextTest {
         runFault("summ * *", 0);
         runFault("su * *", 0);
         runFault("Sum * *", 0);
+        runFault("bum * *", 0);
+        runFault("sumz * *", 0);
         runFault("sum", 3);
         runFault("sum*", 3);
         runFault("sum ", 4);
@@ -362,6 +375,9 @@ public final class TextTest {
         Check.due("the tape is empty", 0, x.clear());
         Check.due("none of one", 0, Helper.load(x, "0-31,0-31"));
         Check.due("ASKS", 3, x.told(2));
+        x.flush();
+        Check.due("once more", 1, Helper.load(x, "0-0,0-0"));
+        Check.due("that alone", "0-0,0-0", Helper.boxes(x));
         x = Helper.with("big 1;most 2");
         Check.due("big and most do not count", 3, Helper.load(x, "0-4,0-4;5-9,0-4;10-14,0-4"));
         Check.due("trimmed behind all", "5-9,0-4 10-14,0-4", Helper.boxes(x));
@@ -400,6 +416,11 @@ public final class TextTest {
         loadFault("1-3,5", 5);
         loadFault("1-3,5-4", 6);
         loadFault("1-3,40-4", 4);
+        loadFault("1-3,32-32", 4);
+        loadFault("1-3,4-32", 6);
+        loadFault("001-3,4-5", 2);
+        loadFault("1-3,004-5", 6);
+        loadFault("1-3,0-005", 8);
         loadFault("1-3,4-5 ", 7);
         loadFault("1-3,4-5;", 8);
         loadFault("1-3,4-5;;", 8);

@@ -153,7 +153,19 @@ public final class TraceTest {
         Check.due("the most", 1, x.changes(2));
         x.query(0, 0, 9, 0, 9);
         Check.due("by put and take alone", 3, x.changes(0));
+        x.put(9, 5, 5, 100);
+        x.take(9);
+        Check.due("there and back", 5, x.changes(0));
+        x.put(2, 5, 5, 0);
+        Check.due("moved within the box", 5, x.changes(0));
         Check.due("beyond", -1, x.changes(3));
         Check.due("below", -1, x.changes(-1));
+        x = new RangeAnswers();
+        x.image();
+        x.watch(0, 0, 9, 0, 9);
+        x.put(0, 1, 1, 4);
+        x.undo();
+        Check.due("a new one behind undo()", 0, x.watch(0, 0, 9, 0, 9));
+        Check.due("has no changes", 0, x.changes(0));
     }
 }
