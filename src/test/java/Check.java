@@ -1,6 +1,6 @@
 /** Counts and prints the answers that are not the ones that are due. */
 final class Check {
-    private static String promise = "";
+    private static String what = "";
     private static int checked = 0;
     private static int wrong = 0;
 
@@ -8,14 +8,19 @@ final class Check {
     }
 
     static void promise(int number) {
-        promise = "promise " + number;
+        what = "promise " + number;
+    }
+
+    /** A sentence of the document that names a boundary case, in its own words. */
+    static void says(String sentence) {
+        what = "\"" + sentence + "\"";
     }
 
     static void due(String call, long want, long got) {
         checked++;
         if (got != want) {
             wrong++;
-            System.out.println(promise + ": " + call + " answered " + got + ", due is " + want);
+            System.out.println(what + ": " + call + " answered " + got + ", due is " + want);
         }
     }
 
@@ -23,7 +28,7 @@ final class Check {
         checked++;
         if (!got.equals(want)) {
             wrong++;
-            System.out.println(promise + ": " + call + " answered \"" + got + "\", due is \"" + want + "\"");
+            System.out.println(what + ": " + call + " answered \"" + got + "\", due is \"" + want + "\"");
         }
     }
 

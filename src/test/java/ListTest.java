@@ -16,7 +16,7 @@ public final class ListTest {
 
     private static void lists() {
         Check.promise(31);
-        RangeAnswers x = new RangeAnswers();
+        Counted x = new Counted();
         Check.due("no list", -1, x.list(-1, 3));
         Check.due("no list", -1, x.list(6, 99));
         Check.due("too long", -2, x.list(0, 61));
@@ -42,7 +42,7 @@ public final class ListTest {
 
     private static void sets() {
         Check.promise(32);
-        RangeAnswers x = new RangeAnswers();
+        Counted x = new Counted();
         Check.due("no list", -1, x.set(-1, 0, 1));
         Check.due("no list", -1, x.set(6, 0, 1));
         Check.due("nothing", -11, x.set(2, -1, 1));
@@ -57,7 +57,7 @@ public final class ListTest {
 
     private static void gets() {
         Check.promise(33);
-        RangeAnswers x = new RangeAnswers();
+        Counted x = new Counted();
         Check.due("no list", NO, x.get(-1, 0));
         Check.due("no list", NO, x.get(6, 0));
         Check.due("nothing", NO, x.get(0, 0));
@@ -73,7 +73,7 @@ public final class ListTest {
 
     private static void moves() {
         Check.promise(34);
-        RangeAnswers x = new RangeAnswers();
+        Counted x = new Counted();
         x.list(0, 5);
         for (int i = 0; i < 5; i++) x.set(0, i, i + 1);
         Check.due("no list", -1, x.move(-1, 0, 0, 0, 0));
@@ -98,8 +98,8 @@ public final class ListTest {
         Check.due("as they all were", "1 2 3 4 4", Helper.list(x, 0));
     }
 
-    private static RangeAnswers found(long... worths) {
-        RangeAnswers x = new RangeAnswers();
+    private static Counted found(long... worths) {
+        Counted x = new Counted();
         for (int i = 0; i < worths.length; i++) x.put(i, i, 0, worths[i]);
         x.query(0, 0, 31, 0, 31);
         return x;
@@ -107,7 +107,7 @@ public final class ListTest {
 
     private static void lays() {
         Check.promise(35);
-        RangeAnswers x = found(7, -8, 9);
+        Counted x = found(7, -8, 9);
         Check.due("no list", -1, x.lay(-1, 0));
         Check.due("no list", -1, x.lay(6, 0));
         Check.due("nothing", -11, x.lay(0, 0));
@@ -126,7 +126,7 @@ public final class ListTest {
         x.query(0, 20, 20, 20, 20);
         Check.due("nothing to lay", 0, x.lay(0, 0));
         Check.due("nothing to lay at the end", 0, x.lay(0, 4));
-        x = new RangeAnswers();
+        x = new Counted();
         for (int r = 59; r >= 0; r--) x.put(r, 31, 31, r);
         Check.due("all the rows", 60, x.query(0, 31, 31, 31, 31));
         Check.due("too much to keep", 0, x.told(0));
@@ -140,7 +140,7 @@ public final class ListTest {
 
     private static void judges() {
         Check.promise(36);
-        RangeAnswers x = found(7, -8, 9);
+        Counted x = found(7, -8, 9);
         Check.due("no list", -1, x.judge(-1, 0));
         Check.due("no list", -1, x.judge(6, 0));
         Check.due("nothing", -11, x.judge(0, 0));
@@ -163,8 +163,8 @@ public final class ListTest {
         Check.due("nothing to judge", -5, x.judge(0, 0));
     }
 
-    private static RangeAnswers rich() {
-        RangeAnswers x = Helper.with("merge off;most 3;setup 5");
+    private static Counted rich() {
+        Counted x = Helper.with("merge off;most 3;setup 5");
         x.put(0, 1, 1, 4);
         x.put(1, 2, 2, 6);
         x.watch(1, 0, 9, 0, 9);
@@ -179,26 +179,15 @@ public final class ListTest {
         return x;
     }
 
-    private static String state(RangeAnswers x) {
-        StringBuilder s = new StringBuilder(Helper.regions(x));
-        for (int i = 0; i < 10; i++) s.append(" t").append(x.told(i));
-        for (int i = 0; i < 7; i++) s.append(" s").append(x.setting(i));
-        for (int r = 0; r < 60; r++) {
-            if (x.row(r, 0) >= 0) s.append(" r" + r + ":" + x.row(r, 0) + "," + x.row(r, 1) + "=" + x.worth(r));
-        }
-        s.append(" f").append(Helper.found(x)).append(" a").append(x.again(40, 1));
-        for (int i = 0; i < 6; i++) s.append(" w").append(x.value(i)).append('*').append(x.changes(i));
-        return s.toString();
-    }
-
     private static void images() {
         Check.promise(37);
-        RangeAnswers x = rich();
-        String then = state(x);
-        Check.due("image", x.told(0), x.image());
-        Check.due("nothing changes", then, state(x));
+        Counted x = rich();
+        Check.due("image", 3, x.image());
+        Check.due("nothing changes", Helper.imaged(rich()), Helper.imaged(x));
         Check.promise(38);
-        Check.due("none yet", -3, new RangeAnswers().undo());
+        Check.due("none yet", -3, new Counted().undo());
+        x = rich();
+        x.image();
         for (int turn = 0; turn < 2; turn++) {
             long[] told = new long[10];
             for (int what = 0; what < 10; what++) told[what] = x.told(what);
@@ -207,12 +196,16 @@ public final class ListTest {
                 Check.due("told " + what + " stays", 0, told[what] == x.told(what) ? 1 : 0);
             }
             Check.due("undo", 3, x.undo());
-            Check.due("all as it was", then, state(x));
         }
+        Check.due("all as it was", Helper.imaged(rich()), Helper.imaged(x));
+        x = rich();
+        x.image();
+        disturb(x);
+        Check.due("undo", 3, x.undo());
         Check.due("undo twice", 3, x.undo());
         x.flush();
         x.query(0, 30, 30, 30, 30);
-        RangeAnswers y = rich();
+        Counted y = rich();
         y.flush();
         y.query(0, 30, 30, 30, 30);
         Check.due("the next number", Helper.regions(y), Helper.regions(x));
@@ -223,7 +216,7 @@ public final class ListTest {
     }
 
     /** Changes all that the image has. */
-    private static void disturb(RangeAnswers x) {
+    private static void disturb(Counted x) {
         x.put(0, 9, 9, 5);
         x.take(1);
         x.put(30, 9, 31, 5);
@@ -246,7 +239,7 @@ public final class ListTest {
 
     private static void imageOfTheRest() {
         Check.promise(38);
-        RangeAnswers x = found(3, 4);
+        Counted x = found(3, 4);
         x.trace(0, 3, 0, 3);
         x.list(0, 2);
         x.image();

@@ -1,13 +1,17 @@
 import java.util.Random;
 
-/** Long runs of calls, the same ones each time, on a RangeAnswers and on the Model side by side. */
+/** Runs of as many calls as are promised, the same ones each time, on a RangeAnswers and on the Model side by side. */
 public final class ModelRuns {
-    private static final int RUNS = 400, CALLS = 200;
+    private static final int RUNS = 4000;
+    /** Calls of a run that are kept for looking at the state in the end. */
+    private static final int LAST_LOOK = 100;
+    /** More than what a step calls besides what it feeds. */
+    private static final int ONE_STEP = 30;
     /** What boxes are like: style 0 is neither small ones nor bars. */
     private static final int SMALL = 1, BARS = 2, STYLES = 3;
 
     private final Random random;
-    private final RangeAnswers real = new RangeAnswers();
+    private final Counted real = new Counted();
     private final Model model = new Model();
     private final StringBuilder log = new StringBuilder();
     private final int[] lines;
@@ -26,10 +30,7 @@ public final class ModelRuns {
         int wrongRuns = 0;
         for (int seed = 0; seed < runs && wrongRuns < 3; seed++) {
             ModelRuns run = new ModelRuns(seed);
-            for (int call = 0; call < CALLS && run.wrong == 0; call++) {
-                run.oneCall();
-                if (run.wrong == 0) run.compareAll();
-            }
+            run.allCalls();
             if (run.wrong > 0) {
                 wrongRuns++;
                 System.out.println("run " + seed + ":\n" + run.log);
@@ -37,6 +38,14 @@ public final class ModelRuns {
         }
         System.out.println(runs + " runs, " + wrongRuns + " wrong");
         if (wrongRuns > 0) System.exit(1);
+    }
+
+    private void allCalls() {
+        while (real.callsLeft() > LAST_LOOK && wrong == 0) {
+            oneCall();
+            for (int i = below(8); i > 0 && wrong == 0; i--) look();
+        }
+        while (real.callsLeft() > 0 && wrong == 0) look();
     }
 
     private void due(String call, long want, long got) {
@@ -86,7 +95,7 @@ public final class ModelRuns {
     private long worth() {
         switch (below(12)) {
             case 0: return random.nextLong();
-            case 1: return Long.MAX_VALUE - below(3);
+            case 1: return oneIn(2) ? Long.MAX_VALUE - below(3) : 999999999 - below(3);
             case 2: return Long.MIN_VALUE + below(4);
             default: return below(21) - 10;
         }
@@ -107,14 +116,14 @@ public final class ModelRuns {
         StringBuilder s = new StringBuilder();
         do {
             if (s.length() > 0) s.append(oneIn(2) ? '|' : '&');
-            if (within < 5 && oneIn(3)) {
-                s.append('!').append(condition(within + 2));
+            if (within < 5 && oneIn(4)) {
+                s.append("!".repeat(1 + below(2))).append(condition(within + 2));
             } else if (within < 5 && oneIn(3)) {
                 s.append('(').append(condition(within + 1)).append(')');
             } else {
                 s.append("wxyr".charAt(below(4))).append("<=>".charAt(below(3)));
                 if (oneIn(4)) s.append('-');
-                s.append(oneIn(20) ? below(1000000000) : below(20));
+                s.append(oneIn(20) ? 999999999 - below(3) : below(20));
             }
         } while (oneIn(3));
         return s.toString();
@@ -163,9 +172,9 @@ public final class ModelRuns {
 
     private String spoiled(String s) {
         if (!oneIn(3) || s.isEmpty()) return s;
-        String signs = "0123456789 ;-*,!()|&<=>wxyrabcdefimnopstuz" + (char) 127;
+        String signs = "0123456789 ;-*,!()|&<=>wxyrabcdefimnopstuz";
         int i = below(s.length());
-        char c = signs.charAt(below(signs.length()));
+        char c = oneIn(4) ? (char) (1 + below(127)) : signs.charAt(below(signs.length()));
         switch (below(4)) {
             case 0: return s.substring(0, i);
             case 1: return s.substring(0, i) + s.substring(i + 1);
@@ -176,7 +185,7 @@ public final class ModelRuns {
 
     private void feedAll(String text) {
         log.append("-- ").append(text).append('\n');
-        for (int i = 0; i < text.length(); i++) {
+        for (int i = 0; i < text.length() && real.callsLeft() > ONE_STEP; i++) {
             due("feed", model.feed(text.charAt(i)), real.feed(text.charAt(i)));
         }
     }
@@ -192,7 +201,7 @@ public final class ModelRuns {
             case 10: callAsk(); break;
             case 11: case 12: callTrace(); break;
             case 13: callWatch(); break;
-            case 14: callList(); break;
+            case 14: for (int i = 0; i < 4; i++) callList(); break;
             default: callImage(); break;
         }
     }
@@ -249,14 +258,14 @@ public final class ModelRuns {
                 break;
             case 1:
                 asked("explain " + told, model.explain(b[0], b[1], b[2], b[3]), real.explain(b[0], b[1], b[2], b[3]));
-                comparePaper();
+                lookAtPaper();
                 break;
             case 2:
                 asked("spell", model.spell(), real.spell());
-                comparePaper();
+                lookAtPaper();
                 break;
             case 3:
-                int n = number(0, 60);
+                int n = number(0, oneIn(2) ? 12 : 60);
                 asked("keep " + n, model.keep(n), real.keep(n));
                 break;
             default:
@@ -283,14 +292,26 @@ public final class ModelRuns {
             real.watch(m, b[0], b[1], b[2], b[3]));
     }
 
+    /** Mostly one of three lists, so that these come to hold something. */
+    private int listNumber() {
+        return oneIn(3) ? number(0, 5) : below(3);
+    }
+
+    private int placeIn(int list) {
+        if (list < 0 || list > 5 || model.lists[list] == null || oneIn(30)) return number(0, 5);
+        return near(model.lists[list].length);
+    }
+
     private void callList() {
-        int l = number(0, 5), o = number(0, 5), n = number(0, oneIn(2) ? 60 : 6), i = number(0, 5), j = number(0, 5);
-        switch (below(5)) {
+        int l = listNumber(), o = listNumber(), i = placeIn(l), j = placeIn(o);
+        int n = oneIn(10) ? number(0, 60) : below(7);
+        long v = worth();
+        switch (below(6)) {
             case 0: asked("list " + l + " " + n, model.list(l, n), real.list(l, n)); break;
-            case 1: asked("set " + l + " " + i + " " + n, model.set(l, i, n), real.set(l, i, n)); break;
-            case 2: asked("move " + l + " " + i + " " + o + " " + j + " " + n, model.move(l, i, o, j, n),
+            case 1: case 2: asked("set " + l + " " + i + " " + v, model.set(l, i, v), real.set(l, i, v)); break;
+            case 3: asked("move " + l + " " + i + " " + o + " " + j + " " + n, model.move(l, i, o, j, n),
                 real.move(l, i, o, j, n)); break;
-            case 3: asked("lay " + l + " " + i, model.lay(l, i), real.lay(l, i)); break;
+            case 4: asked("lay " + l + " " + i, model.lay(l, i), real.lay(l, i)); break;
             default: asked("judge " + l + " " + i, model.judge(l, i), real.judge(l, i)); break;
         }
     }
@@ -303,34 +324,78 @@ public final class ModelRuns {
         }
     }
 
-    // ---- all that can be asked without changing anything
+    // ---- what can be asked without changing anything
 
-    private void comparePaper() {
-        for (int i = -1; i <= model.paper.length(); i++) due("paper " + i, model.paper(i), real.paper(i));
+    private void lookAtPaper() {
+        int from = below(model.paper.length() + 1);
+        for (int i = from; i <= from + 12; i++) due("paper " + i, model.paper(i), real.paper(i));
     }
 
-    private void compareAll() {
-        for (int i = -1; i <= 11; i++) due("told " + i, model.told(i), real.told(i));
-        for (int i = -1; i <= 7; i++) due("setting " + i, model.setting(i), real.setting(i));
-        for (int i = -1; i <= model.regions.size(); i++) {
+    private int near(int count) {
+        return below(count + 2) - 1;
+    }
+
+    private void look() {
+        switch (below(8)) {
+            case 0: case 1: lookAtRegion(); break;
+            case 2: case 3: lookAtNumbers(); break;
+            case 4: lookAtRow(); break;
+            case 5: lookAtFound(); break;
+            case 6: lookAtWatch(); break;
+            default: lookAtList();
+        }
+    }
+
+    private void lookAtRegion() {
+        int i = near(model.regions.size()), what = below(14) - 1;
+        if (what == 12) {
             due("weight " + i, model.weight(i), real.weight(i));
-            for (int w = -1; w <= 12; w++) due("region " + i + " " + w, model.region(i, w), real.region(i, w));
+        } else {
+            due("region " + i + " " + what, model.region(i, what), real.region(i, what));
         }
-        for (int r = -1; r <= 60; r++) {
+    }
+
+    private void lookAtNumbers() {
+        int i = below(13) - 1;
+        due("told " + i, model.told(i), real.told(i));
+        if (!oneIn(4) || real.callsLeft() == 0) return;
+        int what = near(7);
+        due("setting " + what, model.setting(what), real.setting(what));
+    }
+
+    private void lookAtRow() {
+        int r = oneIn(2) ? near(60) : near(15);
+        if (oneIn(2)) {
             due("worth " + r, model.worth(r), real.worth(r));
-            for (int w = -1; w <= 2; w++) due("row " + r + " " + w, model.row(r, w), real.row(r, w));
+        } else {
+            int what = oneIn(9) ? below(5) - 1 : below(2);
+            due("row " + r + " " + what, model.row(r, what), real.row(r, what));
         }
-        for (int i = -2; i <= model.found.size(); i++) due("find " + i, model.find(i), real.find(i));
-        for (int i = -1; i <= model.answers.size(); i++) due("answer " + i, model.answer(i), real.answer(i));
-        for (int i = -1; i <= model.pieces.size(); i++) {
-            for (int w = -1; w <= 5; w++) due("piece " + i + " " + w, model.piece(i, w), real.piece(i, w));
+    }
+
+    private void lookAtFound() {
+        int i = below(model.found.size() + 3) - 2;
+        int k = near(model.answers.size());
+        int p = near(model.pieces.size()), what = near(5);
+        switch (below(3)) {
+            case 0: due("find " + i, model.find(i), real.find(i)); break;
+            case 1: due("answer " + k, model.answer(k), real.answer(k)); break;
+            default: due("piece " + p + " " + what, model.piece(p, what), real.piece(p, what));
         }
-        for (int i = -1; i <= 6; i++) {
+    }
+
+    private void lookAtWatch() {
+        int i = near(model.watches.size());
+        if (oneIn(2)) {
             due("value " + i, model.value(i), real.value(i));
+        } else {
             due("changes " + i, model.changes(i), real.changes(i));
         }
-        for (int l = -1; l <= 6; l++) {
-            for (int i = -1; i <= 60; i++) due("get " + l + " " + i, model.get(l, i), real.get(l, i));
-        }
+    }
+
+    private void lookAtList() {
+        int list = near(6);
+        int i = list < 0 || list > 5 || model.lists[list] == null ? below(3) - 1 : near(model.lists[list].length);
+        due("get " + list + " " + i, model.get(list, i), real.get(list, i));
     }
 }

@@ -23,7 +23,7 @@ public final class QueryTest {
 
     private static void queryRefuses() {
         Check.promise(16);
-        RangeAnswers x = new RangeAnswers();
+        Counted x = new Counted();
         x.put(0, 1, 1, 1);
         x.query(0, 0, 3, 0, 3);
         int[][] none = {{-1, 0, 0, 0, 0}, {7, 0, 0, 0, 0}, {0, -1, 0, 0, 0}, {0, 0, 32, 0, 0}, {0, 0, 0, -1, 0},
@@ -35,7 +35,7 @@ public final class QueryTest {
         Check.due("one place", 0, x.query(0, 31, 31, 31, 31));
     }
 
-    private static String all(RangeAnswers x) {
+    private static String all(Counted x) {
         StringBuilder s = new StringBuilder();
         for (int m = 0; m <= 6; m++) {
             long v = x.query(m, 0, 9, 0, 9);
@@ -44,8 +44,8 @@ public final class QueryTest {
         return s.toString();
     }
 
-    private static RangeAnswers withWorths(long... worths) {
-        RangeAnswers x = Helper.with("room 99");
+    private static Counted withWorths(long... worths) {
+        Counted x = Helper.with("room 99");
         for (int i = 0; i < worths.length; i++) x.put(i, i, 0, worths[i]);
         return x;
     }
@@ -56,7 +56,7 @@ public final class QueryTest {
         Check.due("one", "1 -5 -5 -5 -5 0 1", all(withWorths(-5)));
         Check.due("four", "4 9 -2 7 2 9 3", all(withWorths(2, 7, 2, -2)));
         Check.due("below 0", "3 -4 -3 1 -2 4 3", all(withWorths(1, -2, -3)));
-        RangeAnswers x = withWorths(1, 2, 4);
+        Counted x = withWorths(1, 2, 4);
         x.put(3, 10, 0, 8);
         x.put(4, 0, 10, 8);
         Check.due("beside the box", "3 7 1 4 2 3 3", all(x));
@@ -77,7 +77,7 @@ public final class QueryTest {
         Check.due("its mean", -4611686018427387904L, withWorths(-MAX + 1, -1).query(4, 0, 9, 0, 9));
         Check.due("the least sum", Long.MIN_VALUE, withWorths(-MAX + 1, -2).query(1, 0, 9, 0, 9));
         Check.due("its mean", Long.MIN_VALUE / 2, withWorths(-MAX + 1, -2).query(4, 0, 9, 0, 9));
-        RangeAnswers x = new RangeAnswers();
+        Counted x = new Counted();
         x.put(5, 0, 0, MAX);
         x.put(1, 1, 0, 4);
         x.put(0, 0, 1, -5);
@@ -88,7 +88,7 @@ public final class QueryTest {
 
     private static void regionsComeOfQueries() {
         Check.promise(16);
-        RangeAnswers x = Helper.with("merge off");
+        Counted x = Helper.with("merge off");
         x.put(0, 6, 6, 1);
         x.query(0, 4, 7, 4, 7);
         Check.due("the first", "0:4-7,4-7*0@none=5500", Helper.regions(x));
@@ -121,7 +121,7 @@ public final class QueryTest {
 
     private static void queriesMerge() {
         Check.promise(16);
-        RangeAnswers x = new RangeAnswers();
+        Counted x = new Counted();
         Helper.load(x, "1-1,1-1;1-1,2-2;2-2,1-1;0-0,5-5");
         x.query(0, 31, 31, 31, 31);
         Check.due("the earliest pair", "1-1,1-2 2-2,1-1 0-0,5-5 31-31,31-31", Helper.boxes(x));
@@ -130,11 +130,11 @@ public final class QueryTest {
         Check.due("one by one", "1-2,1-2 0-0,5-5 31-31,31-31", Helper.boxes(x));
         Check.due("MERGED", 3, x.told(6));
         Check.due("the first keeps its number", 0, x.region(0, 4));
-        x = new RangeAnswers();
+        x = new Counted();
         Helper.load(x, "0-0,0-0;4-4,0-1;1-1,0-0;4-4,2-2;5-5,0-2;8-8,8-8;9-9,9-9");
         x.query(0, 20, 20, 20, 20);
         Check.due("two pairs and a third", "0-1,0-0 4-5,0-2 8-8,8-8 9-9,9-9 20-20,20-20", Helper.boxes(x));
-        x = new RangeAnswers();
+        x = new Counted();
         x.put(0, 0, 0, 1);
         x.query(0, 0, 1, 0, 1);
         x.query(0, 1, 1, 1, 1);
@@ -153,7 +153,7 @@ public final class QueryTest {
 
     private static void hitsEnd() {
         Check.promise(16);
-        RangeAnswers x = Helper.with("writes cut;room 99");
+        Counted x = Helper.with("writes cut;room 99");
         x.query(0, 0, 2, 0, 2);
         int[] due = {4, 20, 84, 340, 1364, 5460, 9999};
         for (int hits : due) {
@@ -169,7 +169,7 @@ public final class QueryTest {
 
     private static void queriesTrim() {
         Check.promise(16);
-        RangeAnswers x = Helper.with("merge off;most 2");
+        Counted x = Helper.with("merge off;most 2");
         x.query(0, 0, 3, 0, 3);
         x.query(0, 1, 1, 1, 1);
         x.query(0, 8, 9, 0, 0);
@@ -218,7 +218,7 @@ public final class QueryTest {
 
     private static void finds() {
         Check.promise(17);
-        RangeAnswers x = new RangeAnswers();
+        Counted x = new Counted();
         Check.due("none yet", 0, x.find(-1));
         Check.due("none yet", -1, x.find(0));
         x.put(9, 2, 2, 1);
@@ -248,7 +248,7 @@ public final class QueryTest {
 
     private static void probes() {
         Check.promise(18);
-        RangeAnswers x = Helper.with("merge off");
+        Counted x = Helper.with("merge off");
         Check.due("all is missing", 1, x.probe(0, 31, 0, 31));
         Check.due("the box", "-5:0-31,0-31", Helper.pieces(x));
         Helper.load(x, "2-3,2-3;9-9,9-9;5-8,2-8");
@@ -262,7 +262,7 @@ public final class QueryTest {
         for (int[] b : bad) Check.due("no box", -2, x.probe(b[0], b[1], b[2], b[3]));
         Check.due("the pieces stay", "1:9-9,9-9", Helper.pieces(x));
         Check.promise(19);
-        x = new RangeAnswers();
+        x = new Counted();
         Check.due("none yet", -1, x.piece(0, 0));
         Helper.load(x, "1-2,3-4");
         x.probe(0, 3, 4, 5);
@@ -294,28 +294,49 @@ public final class QueryTest {
         pieces(nested.toString(), 169);
     }
 
+    private static Counted loaded(String regions) {
+        Counted x = new Counted();
+        Check.due("load", 12, Helper.load(x, regions));
+        return x;
+    }
+
     /** Twelve regions, and how many pieces of the grid are missing then. */
     private static void pieces(String regions, int missing) {
-        RangeAnswers x = new RangeAnswers();
-        Check.due("load", 12, Helper.load(x, regions));
-        Check.due("the pieces", 12 + missing, x.probe(0, 31, 0, 31));
+        int all = 12 + missing;
         int area = 0;
-        for (int i = 0; i < 12 + missing; i++) {
-            area += (x.piece(i, 1) - x.piece(i, 0) + 1) * (x.piece(i, 3) - x.piece(i, 2) + 1);
+        for (int from = 0; from < all; from += 50) {
+            Counted x = loaded(regions);
+            Check.due("the pieces", all, x.probe(0, 31, 0, 31));
+            for (int i = from; i < Math.min(all, from + 50); i++) {
+                area += (x.piece(i, 1) - x.piece(i, 0) + 1) * (x.piece(i, 3) - x.piece(i, 2) + 1);
+            }
         }
         Check.due("all the grid", 1024, area);
-        x.explain(0, 31, 0, 31);
-        Check.due("explained", 12 + missing + 1, Helper.paper(x).split(";").length);
+        Counted x = loaded(regions);
         x.query(0, 0, 31, 0, 31);
-        Check.due("ASKS", 12 + missing, x.told(2));
+        Check.due("ASKS", all, x.told(2));
         Check.due("one region", "0-31,0-31", Helper.boxes(x));
-        Check.due("MERGED", 11 + missing, x.told(6));
+        Check.due("MERGED", all - 1, x.told(6));
         Check.due("HITS of all", 12, x.region(0, 5));
+        Check.due("explained", all + 1, explained(regions).split(";").length);
+    }
+
+    /** THE PAPER of the whole grid explained, too long to be read from one object. */
+    private static String explained(String regions) {
+        StringBuilder s = new StringBuilder();
+        int bytes = loaded(regions).explain(0, 31, 0, 31);
+        while (s.length() < bytes) {
+            Counted x = loaded(regions);
+            x.explain(0, 31, 0, 31);
+            int most = s.length() + 200;
+            while (s.length() < Math.min(bytes, most)) s.append((char) x.paper(s.length()));
+        }
+        return s.toString();
     }
 
     private static void regions() {
         Check.promise(20);
-        RangeAnswers x = Helper.with("merge off;setup 7");
+        Counted x = Helper.with("merge off;setup 7");
         Check.due("none yet", -1, x.region(0, 0));
         x.put(0, 4, 6, 1);
         x.put(1, 5, 6, 1);
@@ -338,7 +359,7 @@ public final class QueryTest {
 
     private static void weights() {
         Check.promise(21);
-        RangeAnswers x = Helper.with("merge off");
+        Counted x = Helper.with("merge off");
         Check.due("none yet", NO, x.weight(0));
         x.put(0, 1, 1, 1);
         x.put(1, 1, 1, 1);
@@ -366,7 +387,7 @@ public final class QueryTest {
 
     private static void tolds() {
         Check.promise(22);
-        RangeAnswers x = Helper.with("most 2");
+        Counted x = Helper.with("most 2");
         x.put(0, 0, 0, 1);
         x.put(1, 0, 0, 1);
         x.put(2, 25, 0, 1);
@@ -387,7 +408,7 @@ public final class QueryTest {
 
     private static void flushes() {
         Check.promise(23);
-        RangeAnswers x = Helper.with("most 2");
+        Counted x = Helper.with("most 2");
         Check.due("none", 0, x.flush());
         Helper.load(x, "0-0,0-0;5-5,5-5;9-9,9-9");
         Check.due("two", 2, x.flush());
@@ -401,7 +422,7 @@ public final class QueryTest {
 
     private static void keeps() {
         Check.promise(24);
-        RangeAnswers x = Helper.with("merge off");
+        Counted x = Helper.with("merge off");
         Check.due("no regions", 0, x.keep(5));
         x.put(0, 5, 5, 1);
         x.put(1, 5, 5, 1);

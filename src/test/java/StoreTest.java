@@ -17,7 +17,7 @@ public final class StoreTest {
 
     private static void newObject() {
         Check.promise(1);
-        RangeAnswers x = new RangeAnswers();
+        Counted x = new Counted();
         for (int i = 0; i <= 10; i++) Check.due("told " + i, 0, x.told(i));
         for (int r = 0; r < 60; r++) Check.due("worth " + r, NO, x.worth(r));
         Check.due("region", -1, x.region(0, 0));
@@ -32,7 +32,7 @@ public final class StoreTest {
         Check.due("undo", -3, x.undo());
         int[] first = {10, 40, 12, 0, 1, 1, 1024};
         for (int i = 0; i < first.length; i++) Check.due("setting " + i, first[i], x.setting(i));
-        new RangeAnswers().put(0, 0, 0, 1);
+        new Counted().put(0, 0, 0, 1);
         Check.due("a row of another object", 0, x.told(9));
         Check.due("NONE", -1, RangeAnswers.NONE);
         Check.due("BAD", -2, RangeAnswers.BAD);
@@ -44,7 +44,7 @@ public final class StoreTest {
 
     private static void putRefuses() {
         Check.promise(2);
-        RangeAnswers x = new RangeAnswers();
+        Counted x = new Counted();
         int[][] none = {{-1, 0, 0}, {60, 0, 0}, {60, 32, -1}, {Integer.MIN_VALUE, 0, 0}, {Integer.MAX_VALUE, 0, 0}};
         for (int[] p : none) Check.due("put of row " + p[0], -1, x.put(p[0], p[1], p[2], NO));
         int[][] bad = {{0, -1, 0}, {0, 32, 0}, {0, 0, -1}, {0, 0, 32}, {59, Integer.MAX_VALUE, 0}};
@@ -67,7 +67,7 @@ public final class StoreTest {
 
     private static void putPatches() {
         Check.promise(2);
-        RangeAnswers x = new RangeAnswers();
+        Counted x = new Counted();
         x.query(0, 0, 9, 0, 9);
         Check.due("put into a region", 1, x.put(0, 5, 5, 1));
         Check.due("the region", "0:0-9,0-9*0@none=10000", Helper.regions(x));
@@ -86,7 +86,7 @@ public final class StoreTest {
 
     private static void putDrops() {
         Check.promise(2);
-        RangeAnswers x = Helper.with("writes drop;merge off");
+        Counted x = Helper.with("writes drop;merge off");
         x.put(0, 2, 2, 5);
         Helper.load(x, "0-4,0-4;10-14,0-4;20-24,0-4");
         Check.due("out of one into another", 1, x.put(0, 12, 2, 5));
@@ -100,7 +100,7 @@ public final class StoreTest {
 
     private static void putCuts() {
         Check.promise(2);
-        RangeAnswers x = Helper.with("writes cut");
+        Counted x = Helper.with("writes cut");
         x.query(0, 0, 9, 0, 9);
         x.query(0, 2, 7, 2, 7);
         Check.due("in the midst", 4, x.put(0, 4, 5, 1));
@@ -122,7 +122,7 @@ public final class StoreTest {
 
     private static void putTrims() {
         Check.promise(2);
-        RangeAnswers x = Helper.with("room 3");
+        Counted x = Helper.with("room 3");
         x.query(0, 0, 9, 0, 9);
         x.put(0, 1, 1, 1);
         Check.due("SIZES just the room", 1, x.put(1, 1, 1, 1));
@@ -148,7 +148,7 @@ public final class StoreTest {
 
     private static void takes() {
         Check.promise(3);
-        RangeAnswers x = new RangeAnswers();
+        Counted x = new Counted();
         Check.due("take -1", -1, x.take(-1));
         Check.due("take 60", -1, x.take(60));
         Check.due("take of what is OUT", -3, x.take(0));
@@ -178,7 +178,7 @@ public final class StoreTest {
 
     private static void rows() {
         Check.promise(4);
-        RangeAnswers x = new RangeAnswers();
+        Counted x = new Counted();
         x.put(7, 3, 31, 1);
         Check.due("x", 3, x.row(7, 0));
         Check.due("y", 31, x.row(7, 1));
@@ -194,7 +194,7 @@ public final class StoreTest {
 
     private static void worths() {
         Check.promise(5);
-        RangeAnswers x = new RangeAnswers();
+        Counted x = new Counted();
         x.put(0, 3, 31, -9);
         x.put(59, 3, 31, 8);
         Check.due("worth 0", -9, x.worth(0));

@@ -25,7 +25,7 @@ public final class TextTest {
 
     private static void feeds() {
         Check.promise(6);
-        RangeAnswers x = new RangeAnswers();
+        Counted x = new Counted();
         int[] bad = {0, -1, 128, 255, Integer.MAX_VALUE, Integer.MIN_VALUE};
         for (int letter : bad) Check.due("feed " + letter, -2, x.feed(letter));
         Check.due("the least", 1, x.feed(1));
@@ -38,7 +38,7 @@ public final class TextTest {
 
     private static void clears() {
         Check.promise(7);
-        RangeAnswers x = new RangeAnswers();
+        Counted x = new Counted();
         Helper.feed(x, "room 5");
         Check.due("clear", 6, x.clear());
         Check.due("clear twice", 0, x.clear());
@@ -46,39 +46,31 @@ public final class TextTest {
         Check.due("feed", 1, x.feed('m'));
     }
 
-    private static String all(RangeAnswers x) {
-        StringBuilder s = new StringBuilder();
-        for (int i = 0; i < 7; i++) s.append(i > 0 ? " " : "").append(x.setting(i));
-        return s.toString();
-    }
-
     private static void settings() {
         Check.promise(8);
-        RangeAnswers x = new RangeAnswers();
+        Counted x = new Counted();
         Check.due("all seven", 7, Helper.set(x, "setup 0;room 1;most 1;writes drop;merge off;shrink off;big 1"));
-        Check.due("then", "0 1 1 1 0 0 1", all(x));
+        Check.due("then", "0 1 1 1 0 0 1", Helper.settings(x));
         Check.due("all seven", 7, Helper.set(x, "big 1024;shrink on;merge on;writes cut;most 12;room 99;setup 99"));
-        Check.due("then", "99 99 12 2 1 1 1024", all(x));
+        Check.due("then", "99 99 12 2 1 1 1024", Helper.settings(x));
         Check.due("the latter counts", 3, Helper.set(x, "writes patch;setup 7;setup 08"));
-        Check.due("then", "8 99 12 0 1 1 1024", all(x));
+        Check.due("then", "8 99 12 0 1 1 1024", Helper.settings(x));
         Check.due("leading 0", 3, Helper.set(x, "room 01;most 09;big 0010"));
-        Check.due("then", "8 1 9 0 1 1 10", all(x));
+        Check.due("then", "8 1 9 0 1 1 10", Helper.settings(x));
         Check.due("the tape is empty", 0, x.clear());
-        Check.due("many parts", 20, Helper.set(x, "most 1;".repeat(19) + "most 12"));
+        x = Helper.with("room 9");
+        Check.due("many parts", 20, Helper.set(x, "most 1;".repeat(19) + "most 11"));
         Check.due("160 bytes", 18, Helper.set(x, "merge on;".repeat(16) + "big 1;writes cut"));
-        Check.due("then", "8 1 12 2 1 1 1", all(x));
+        Check.due("then", "10 9 11 2 1 1 1", Helper.settings(x));
         Check.due("a fault behind others", -113, Helper.set(x, "setup 9;room x"));
-        x.image();
-        Helper.set(x, "setup 11");
-        x.undo();
         Check.due("one alone", 1, Helper.set(x, "room 6"));
-        Check.due("then", "8 6 12 2 1 1 1", all(x));
+        Check.due("then", "10 6 11 2 1 1 1", Helper.settings(x));
     }
 
     private static void settingsFault(String text, int place) {
-        RangeAnswers x = new RangeAnswers();
+        Counted x = new Counted();
         Check.due("settings " + text, -100 - place, Helper.set(x, text));
-        Check.due("nothing by " + text, "10 40 12 0 1 1 1024", all(x));
+        Check.due("nothing by " + text, "10 40 12 0 1 1 1024", Helper.settings(x));
         Check.due("the tape by " + text, 0, x.clear());
     }
 
@@ -127,7 +119,7 @@ public final class TextTest {
 
     private static void settingsTrim() {
         Check.promise(8);
-        RangeAnswers x = new RangeAnswers();
+        Counted x = new Counted();
         Helper.load(x, "0-1,0-1;5-6,5-6;9-9,9-9");
         Check.due("most 2", 1, Helper.set(x, "most 2"));
         Check.due("the least number goes", "5-6,5-6 9-9,9-9", Helper.boxes(x));
@@ -142,18 +134,18 @@ public final class TextTest {
 
     private static void setting() {
         Check.promise(9);
-        RangeAnswers x = new RangeAnswers();
+        Counted x = new Counted();
         Check.due("-1", -1, x.setting(-1));
         Check.due("7", -1, x.setting(7));
         Helper.set(x, "setup 1;room 2;most 3;writes cut;merge off;shrink off;big 77");
-        Check.due("all", "1 2 3 2 0 0 77", all(x));
+        Check.due("all", "1 2 3 2 0 0 77", Helper.settings(x));
         Helper.set(x, "writes drop;merge on");
-        Check.due("all", "1 2 3 1 1 0 77", all(x));
+        Check.due("all", "1 2 3 1 1 0 77", Helper.settings(x));
     }
 
     /** Rows 0 .. 3 with worths 5, -7, 5, 8 at (1,1), (1,9), (20,1), (31,31). */
-    private static RangeAnswers rows() {
-        RangeAnswers x = new RangeAnswers();
+    private static Counted rows() {
+        Counted x = new Counted();
         x.put(0, 1, 1, 5);
         x.put(1, 1, 9, -7);
         x.put(2, 20, 1, 5);
@@ -163,7 +155,7 @@ public final class TextTest {
 
     private static void runs() {
         Check.promise(10);
-        RangeAnswers x = rows();
+        Counted x = rows();
         Check.due("seven", 7, Helper.run(x, "count * *;sum * *;least * *;most * *;mean * *;span * *;kinds * *"));
         long[] due = {4, 11, -7, 8, 2, 15, 3};
         for (int i = 0; i < due.length; i++) Check.due("answer " + i, due[i], x.answer(i));
@@ -187,7 +179,7 @@ public final class TextTest {
 
     private static void runsInOrder() {
         Check.promise(10);
-        RangeAnswers x = rows();
+        Counted x = rows();
         Helper.run(x, "sum 0-3 0-3;sum 0-5 0-3;sum 0-3 0-3 if x=9");
         Check.due("asked", 2, x.told(2));
         Check.due("one region", "0:0-5,0-3*2@0-3,0-3=16500", Helper.regions(x));
@@ -200,7 +192,7 @@ public final class TextTest {
     }
 
     private static void condition(String e, String found) {
-        RangeAnswers x = rows();
+        Counted x = rows();
         Check.due("count if " + e, 1, Helper.run(x, "count * * if " + e));
         Check.due("found if " + e, found, Helper.found(x));
         Check.due("asked by its box", "0-31,0-31", Helper.boxes(x));
@@ -238,7 +230,7 @@ public final class TextTest {
     }
 
     private static void runFault(String text, int place) {
-        RangeAnswers x = rows();
+        Counted x = rows();
         Helper.run(x, "sum * *");
         Check.due("run " + text, -100 - place, Helper.run(x, text));
         Check.due("the answer stays by " + text, 11, x.answer(0));
@@ -329,7 +321,7 @@ public final class TextTest {
 
     private static void answers() {
         Check.promise(11);
-        RangeAnswers x = rows();
+        Counted x = rows();
         Check.due("none yet", NO, x.answer(0));
         Helper.run(x, "sum * *;count * *;least 5 5");
         Check.due("0", 11, x.answer(0));
@@ -350,7 +342,7 @@ public final class TextTest {
 
     private static void spells() {
         Check.promise(12);
-        RangeAnswers x = Helper.with("merge off");
+        Counted x = Helper.with("merge off");
         Check.due("no regions", 0, x.spell());
         Check.due("nothing", "", Helper.paper(x));
         Helper.load(x, "03-10,0-00;31-31,30-31");
@@ -365,7 +357,7 @@ public final class TextTest {
 
     private static void loads() {
         Check.promise(13);
-        RangeAnswers x = new RangeAnswers();
+        Counted x = new Counted();
         x.put(0, 5, 5, 1);
         Check.due("three of four", 3, Helper.load(x, "0-4,0-4;4-6,4-6;5-5,0-9;10-31,31-31"));
         Check.due("not merged", "0:0-4,0-4*0@none=10000 1:5-5,0-9*0@none=5500 2:10-31,31-31*0@none=10000",
@@ -382,7 +374,7 @@ public final class TextTest {
         Check.due("big and most do not count", 3, Helper.load(x, "0-4,0-4;5-9,0-4;10-14,0-4"));
         Check.due("trimmed behind all", "5-9,0-4 10-14,0-4", Helper.boxes(x));
         Check.due("EVICTED", 1, x.told(4));
-        x = new RangeAnswers();
+        x = new Counted();
         StringBuilder twelve = new StringBuilder();
         for (int i = 0; i < 12; i++) twelve.append(i > 0 ? ";" : "").append(i + "-" + i + ",0-0");
         Check.due("twelve", 12, Helper.load(x, twelve.toString()));
@@ -394,7 +386,7 @@ public final class TextTest {
     }
 
     private static void loadFault(String text, int place) {
-        RangeAnswers x = new RangeAnswers();
+        Counted x = new Counted();
         Check.due("load " + text, -100 - place, Helper.load(x, text));
         Check.due("nothing by " + text, 0, x.told(0) + x.told(2));
         Check.due("the tape by " + text, 0, x.clear());
@@ -429,7 +421,7 @@ public final class TextTest {
 
     private static void explains() {
         Check.promise(14);
-        RangeAnswers x = Helper.with("merge off");
+        Counted x = Helper.with("merge off");
         x.put(0, 7, 7, 1);
         Helper.load(x, "2-3,2-3;9-9,9-9;5-8,2-8");
         String due = "have 0 3-3,3-3;have 2 5-6,3-8;ask 3-6,9-10 10;ask 3-4,4-8 10;ask 4-4,3-3 10;pay 30";
@@ -451,7 +443,7 @@ public final class TextTest {
 
     private static void papers() {
         Check.promise(15);
-        RangeAnswers x = new RangeAnswers();
+        Counted x = new Counted();
         Check.due("nothing", -1, x.paper(0));
         x.query(0, 0, 3, 4, 5);
         Check.due("spell", 7, x.spell());

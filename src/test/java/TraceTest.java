@@ -14,7 +14,7 @@ public final class TraceTest {
 
     private static void traces() {
         Check.promise(25);
-        RangeAnswers x = new RangeAnswers();
+        Counted x = new Counted();
         Check.due("first", 1, x.trace(0, 31, 0, 31));
         int[][] bad = {{-2, 0, 0, 0}, {0, 32, 0, 0}, {0, 0, -1, 0}, {0, 0, 0, 32}, {1, 0, 0, 0}, {0, 0, 1, 0}};
         for (int[] b : bad) Check.due("no box", -2, x.trace(b[0], b[1], b[2], b[3]));
@@ -28,8 +28,8 @@ public final class TraceTest {
     }
 
     /** Rows 0 .. 3 at (1,1), (2,2), (3,3), (20,20). */
-    private static RangeAnswers traced() {
-        RangeAnswers x = new RangeAnswers();
+    private static Counted traced() {
+        Counted x = new Counted();
         for (int r = 0; r < 3; r++) x.put(r, r + 1, r + 1, 1);
         x.put(3, 20, 20, 1);
         x.trace(0, 4, 0, 4);
@@ -42,7 +42,7 @@ public final class TraceTest {
 
     private static void agains() {
         Check.promise(26);
-        RangeAnswers x = traced();
+        Counted x = traced();
         Check.due("no what", -1, x.again(40, 6));
         Check.due("no what", -1, x.again(0, -1));
         Check.due("room 0", -2, x.again(0, 0));
@@ -78,7 +78,7 @@ public final class TraceTest {
 
     private static void leasts() {
         Check.promise(27);
-        RangeAnswers x = new RangeAnswers();
+        Counted x = new Counted();
         Check.due("no trace", 1, x.least(0));
         Check.due("no trace", -5, x.least(-1));
         x = traced();
@@ -92,7 +92,7 @@ public final class TraceTest {
 
     private static void watches() {
         Check.promise(28);
-        RangeAnswers x = new RangeAnswers();
+        Counted x = new Counted();
         Check.due("no measure", -1, x.watch(-1, 0, 0, 0, 0));
         Check.due("no measure", -1, x.watch(7, 5, 0, 0, 0));
         int[][] bad = {{-1, 0, 0, 0}, {0, 32, 0, 0}, {0, 0, -1, 0}, {0, 0, 0, 32}, {1, 0, 0, 0}, {0, 0, 1, 0}};
@@ -106,7 +106,7 @@ public final class TraceTest {
 
     private static void values() {
         Check.promise(29);
-        RangeAnswers x = new RangeAnswers();
+        Counted x = new Counted();
         Check.due("none", NO, x.value(0));
         for (int m = 0; m < 5; m++) x.watch(m, 0, 9, 0, 9);
         long[] empty = {0, 0, NO, NO, NO};
@@ -129,7 +129,7 @@ public final class TraceTest {
 
     private static void changes() {
         Check.promise(30);
-        RangeAnswers x = new RangeAnswers();
+        Counted x = new Counted();
         Check.due("none", -1, x.changes(0));
         x.put(0, 1, 1, 4);
         x.watch(1, 0, 9, 0, 9);
@@ -160,7 +160,7 @@ public final class TraceTest {
         Check.due("moved within the box", 5, x.changes(0));
         Check.due("beyond", -1, x.changes(3));
         Check.due("below", -1, x.changes(-1));
-        x = new RangeAnswers();
+        x = new Counted();
         x.image();
         x.watch(0, 0, 9, 0, 9);
         x.put(0, 1, 1, 4);
